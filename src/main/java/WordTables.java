@@ -635,7 +635,8 @@ public final class WordTables {
         int seens;
         private final int[] length = new int[MOST_WORDS];
         private final int[] value = new int[MOST_WORDS];
-        private final int[][] glyph = new int[MOST_WORDS][MOST_LETTERS];
+        // Each word's letters, NONE behind its last one; the last row, of no word, has none.
+        private final int[][] glyph = new int[KINDS][MOST_LETTERS];
         private final boolean[] barred = new boolean[MOST_WORDS];
         private final int[] first = new int[MOST_GUESTS];
         private final int[] likely = new int[MOST_LIKELY];
@@ -643,6 +644,7 @@ public final class WordTables {
         private final int[] seen = new int[MOST_SEEN];
 
         House() {
+            Arrays.fill(glyph[EMPTY], NONE);
         }
 
         void clear() {
@@ -707,6 +709,10 @@ public final class WordTables {
             return isWord(w) && i >= 0 && i < MOST_LETTERS ? glyph[w][i] : NONE;
         }
 
+        int[] glyphsOf(int w) {
+            return glyph[isWord(w) ? w : EMPTY];
+        }
+
         int firstOf(int g) {
             return isGuest(g) ? first[g] : NONE;
         }
@@ -743,6 +749,7 @@ public final class WordTables {
 
         void addWord(int[] bytes, int start, int stop) {
             if (words < MOST_WORDS && start >= 0 && stop <= bytes.length && stop - start <= MOST_LETTERS) {
+                Arrays.fill(glyph[words], NONE);
                 for (int i = start; i < stop; i++) {
                     glyph[words][i - start] = bytes[i] - 'a';
                 }
@@ -1138,12 +1145,12 @@ public final class WordTables {
     /** Which words become which, and what follows from that alone. */
     private static final class Growth {
         private final House house;
-        private final int[][] held = new int[KINDS][ALPHABET];
         // By which letter one becomes the other, whatever is barred; NONE if it doesn't.
         private final int[][] woven = new int[KINDS][MOST_WORDS];
-        // The same among good words alone, and its rows of words, rising.
+        // The same among good words alone; what each becomes, rising, and the letters of that.
         private final int[][] gain = new int[KINDS][MOST_WORDS];
         private final int[][] up = new int[KINDS][MOST_WORDS];
+        private final int[][] by = new int[KINDS][MOST_WORDS];
         private final int[] upCount = new int[KINDS];
         private final int[][] down = new int[MOST_WORDS][KINDS];
         private final int[] downCount = new int[MOST_WORDS];
@@ -1158,23 +1165,12 @@ public final class WordTables {
         /** The words are new ones. */
         void weave() {
             for (int v = 0; v < MOST_WORDS; v++) {
-                countLetters(v);
                 for (int w = 0; w < MOST_WORDS; w++) {
                     woven[w][v] = letterBetween(w, v);
                 }
                 woven[EMPTY][v] = house.lengthOf(v) == 1 ? house.glyphOf(v, 0) : NONE;
             }
             settle();
-        }
-
-        private void countLetters(int w) {
-            Arrays.fill(held[w], 0);
-            for (int i = 0; i < house.lengthOf(w); i++) {
-                int letter = house.glyphOf(w, i);
-                if (letter >= 0 && letter < ALPHABET) {
-                    held[w][letter]++;
-                }
-            }
         }
 
         private int letterBetween(int w, int v) {
@@ -1224,6 +1220,7 @@ public final class WordTables {
         private void link(int w, int v) {
             if (upCount[w] < MOST_WORDS && downCount[v] < KINDS) {
                 up[w][upCount[w]] = v;
+                by[w][upCount[w]] = gain[w][v];
                 upCount[w]++;
                 down[v][downCount[v]] = w;
                 downCount[v]++;
@@ -1286,16 +1283,16 @@ public final class WordTables {
             return isKind(w) && isSpot(v) ? gain[w][v] : NONE;
         }
 
-        int heldOf(int w, int letter) {
-            return isKind(w) && letter >= 0 && letter < ALPHABET ? held[w][letter] : 0;
-        }
-
         int ups(int w) {
             return isKind(w) ? upCount[w] : 0;
         }
 
         int upOf(int w, int i) {
             return isKind(w) && isSpot(i) ? up[w][i] : NONE;
+        }
+
+        int byOf(int w, int i) {
+            return isKind(w) && isSpot(i) ? by[w][i] : NONE;
         }
 
         int downs(int w) {
@@ -1309,7 +1306,7 @@ public final class WordTables {
         int waysBy(int w, int letter) {
             int ways = 0;
             for (int i = 0; i < ups(w); i++) {
-                if (letterOf(w, upOf(w, i)) == letter) {
+                if (byOf(w, i) == letter) {
                     ways++;
                 }
             }
@@ -1500,25 +1497,21 @@ public final class WordTables {
         }
 
         private void take(int w) {
-            for (int i = 0; i < house.lengthOf(w); i++) {
-                int letter = house.glyphOf(w, i);
-                if (letter >= 0 && letter < ALPHABET) {
-                    over += left[letter] > 0 ? 0 : 1;
-                    left[letter]--;
-                    letters++;
-                }
+            int[] row = house.glyphsOf(w);
+            for (int i = 0; i < row.length && row[i] >= 0 && row[i] < ALPHABET; i++) {
+                over += left[row[i]] > 0 ? 0 : 1;
+                left[row[i]]--;
+                letters++;
             }
             value += house.valueOf(w);
         }
 
         private void giveBack(int w) {
-            for (int i = 0; i < house.lengthOf(w); i++) {
-                int letter = house.glyphOf(w, i);
-                if (letter >= 0 && letter < ALPHABET) {
-                    left[letter]++;
-                    over -= left[letter] > 0 ? 0 : 1;
-                    letters--;
-                }
+            int[] row = house.glyphsOf(w);
+            for (int i = 0; i < row.length && row[i] >= 0 && row[i] < ALPHABET; i++) {
+                left[row[i]]++;
+                over -= left[row[i]] > 0 ? 0 : 1;
+                letters--;
             }
             value -= house.valueOf(w);
         }
@@ -1660,9 +1653,8 @@ public final class WordTables {
             int letter = house.firstOf(g);
             int most = 0;
             for (int i = 0; i < growth.ups(w); i++) {
-                int v = growth.upOf(w, i);
-                if (growth.letterOf(w, v) == letter) {
-                    most = Math.max(most, 1 + mostFrom(g + 1, v, other, third));
+                if (growth.byOf(w, i) == letter) {
+                    most = Math.max(most, 1 + mostFrom(g + 1, growth.upOf(w, i), other, third));
                 }
             }
             return most;
@@ -1702,9 +1694,8 @@ public final class WordTables {
         private int hopedSeated(int k, int letter, int w, int other, int third) {
             int top = 0;
             for (int i = 0; i < growth.ups(w); i++) {
-                int v = growth.upOf(w, i);
-                if (growth.letterOf(w, v) == letter) {
-                    top = Math.max(top, weightOf(k - 1) + hoped(k - 1, v, other, third));
+                if (growth.byOf(w, i) == letter) {
+                    top = Math.max(top, weightOf(k - 1) + hoped(k - 1, growth.upOf(w, i), other, third));
                 }
             }
             return top;
@@ -1753,12 +1744,11 @@ public final class WordTables {
             for (int t = 0; t < house.tables; t++) {
                 int w = night.at(t);
                 for (int i = 0; i < growth.ups(w); i++) {
-                    int v = growth.upOf(w, i);
-                    if (growth.letterOf(w, v) == letter) {
-                        int score = scoreOf(night, t, v);
+                    if (growth.byOf(w, i) == letter) {
+                        int score = scoreOf(night, t, growth.upOf(w, i));
                         if (table < 0 || score > top) {
                             table = t;
-                            word = v;
+                            word = growth.upOf(w, i);
                             top = score;
                         }
                     }
@@ -1786,17 +1776,28 @@ public final class WordTables {
         }
     }
 
-    /** The way from tables to tables by sitting down and getting up: breadth first, all tables being one code. */
+    /**
+     * The way from tables to tables by sitting down and getting up, all tables being one code. Each step brings one
+     * table nearer to what it shall be, or farther from it: ways are looked for in the order of how often that is so.
+     */
     private static final class Stairs {
         private static final int CODES = KINDS * KINDS * KINDS;
         private static final int BITS = 32;
 
         private final House house;
         private final Growth growth;
-        private final int[] come = new int[ALPHABET];
-        private final int[] met = new int[CODES / BITS + 1];
-        private final int[] queue = new int[CODES];
-        private int tail;
+        // How many stand by each letter while a code is looked at; else all who have come.
+        private final int[] stands = new int[ALPHABET];
+        // How far each table's kinds are from what it shall be, if letters and those standing didn't matter.
+        private final int[][] away = new int[MOST_TABLES][KINDS];
+        private final int[] queue = new int[KINDS];
+        // Codes with as few steps back as can be, and those with one more; each is put into either once.
+        private int[] now = new int[CODES];
+        private int[] later = new int[CODES];
+        private final int[] wasNow = new int[CODES / BITS + 1];
+        private final int[] wasLater = new int[CODES / BITS + 1];
+        private int nowCount;
+        private int laterCount;
         private int people;
         private int limit;
 
@@ -1824,52 +1825,100 @@ public final class WordTables {
             }
             gather(night);
             limit = up;
-            if (!hasLettersFor(goal) || standingAt(goal) > limit) {
+            int nearest = awayFrom(begin, goal);
+            if (nearest < 0 || !canBe(goal)) {
                 return NO_WAY;
             }
-            Arrays.fill(met, 0);
-            tail = 0;
-            reach(begin);
-            int head = 0;
-            for (int far = 1; far <= CODES && head < tail; far++) {
-                int level = tail;
-                for (; head < level && head < CODES; head++) {
-                    goOn(queue[head]);
-                }
-                if (isMet(goal)) {
+            Arrays.fill(wasNow, 0);
+            Arrays.fill(wasLater, 0);
+            nowCount = 0;
+            laterCount = 0;
+            putNow(begin);
+            // A step back must be made good by another one: two steps more.
+            for (int far = nearest; far <= 2 * CODES && nowCount > 0; far += 2) {
+                goOnAll();
+                if (isIn(wasNow, goal)) {
                     return far;
                 }
+                takeLater();
             }
             return NO_WAY;
         }
 
         private void gather(Night night) {
-            Arrays.fill(come, 0);
+            Arrays.fill(stands, 0);
             people = night.came;
             for (int g = 0; g < people; g++) {
                 int letter = house.firstOf(g);
                 if (letter >= 0 && letter < ALPHABET) {
-                    come[letter]++;
+                    stands[letter]++;
                 }
             }
         }
 
-        private int sittingBy(int code, int letter) {
-            return growth.heldOf(kindAt(code, 0), letter) + growth.heldOf(kindAt(code, 1), letter)
-                + growth.heldOf(kindAt(code, 2), letter);
+        /** How many steps there are at least; NONE if a table can never become what it shall be. */
+        private int awayFrom(int begin, int goal) {
+            int sum = 0;
+            for (int t = 0; t < house.tables && t < MOST_TABLES; t++) {
+                measure(away[t], kindAt(goal, t));
+                int far = farOf(t, kindAt(begin, t));
+                if (far < 0) {
+                    return NONE;
+                }
+                sum += far;
+            }
+            return sum;
         }
 
-        private boolean hasLettersFor(int code) {
+        private void measure(int[] far, int goal) {
+            Arrays.fill(far, NONE);
+            if (goal < 0 || goal >= KINDS || far.length < KINDS) {
+                return;
+            }
+            far[goal] = 0;
+            queue[0] = goal;
+            int tail = 1;
+            for (int head = 0; head < tail && head < KINDS; head++) {
+                int w = queue[head];
+                int ups = growth.ups(w);
+                for (int i = 0; i < ups + growth.downs(w); i++) {
+                    int v = i < ups ? growth.upOf(w, i) : growth.downOf(w, i - ups);
+                    if (v >= 0 && v < KINDS && far[v] < 0 && tail < KINDS) {
+                        far[v] = far[w] + 1;
+                        queue[tail] = v;
+                        tail++;
+                    }
+                }
+            }
+        }
+
+        private int farOf(int t, int w) {
+            return t >= 0 && t < MOST_TABLES && w >= 0 && w < KINDS ? away[t][w] : NONE;
+        }
+
+        /** Those at the tables of a code sit, or (by 1) are counted among all again. */
+        private void shift(int code, int by) {
+            for (int t = 0; t < MOST_TABLES; t++) {
+                int[] row = house.glyphsOf(kindAt(code, t));
+                for (int i = 0; i < row.length && row[i] >= 0 && row[i] < ALPHABET; i++) {
+                    stands[row[i]] += by;
+                }
+            }
+        }
+
+        /** Whether there are letters for all its tables, and no more stand than may. */
+        private boolean canBe(int code) {
+            boolean can = standingAt(code) <= limit;
+            shift(code, -1);
             for (int letter = 0; letter < ALPHABET; letter++) {
-                if (sittingBy(code, letter) > come[letter]) {
-                    return false;
-                }
+                can &= stands[letter] >= 0;
             }
-            return true;
+            shift(code, 1);
+            return can;
         }
 
-        private boolean hasStanding(int code, int letter) {
-            return letter >= 0 && letter < ALPHABET && sittingBy(code, letter) < come[letter];
+        private boolean isStanding(int letter) {
+            return letter >= 0 && letter < ALPHABET && stands[letter] > 0;
         }
 
         private int standingAt(int code) {
@@ -1877,37 +1926,74 @@ public final class WordTables {
                 - house.lengthOf(kindAt(code, 2));
         }
 
+        private void goOnAll() {
+            for (int looked = 0; looked < CODES && nowCount > 0; looked++) {
+                nowCount--;
+                goOn(now[nowCount]);
+            }
+        }
+
         private void goOn(int code) {
             int standing = standingAt(code);
+            shift(code, -1);
             for (int t = 0; t < house.tables; t++) {
                 int w = kindAt(code, t);
-                int rest = code - w * placeOf(t);
                 if (standing - 1 <= limit) {
                     for (int i = 0; i < growth.ups(w); i++) {
-                        int v = growth.upOf(w, i);
-                        if (hasStanding(code, growth.letterOf(w, v))) {
-                            reach(rest + v * placeOf(t));
+                        if (isStanding(growth.byOf(w, i))) {
+                            step(code, t, w, growth.upOf(w, i));
                         }
                     }
                 }
                 if (standing + 1 <= limit) {
                     for (int i = 0; i < growth.downs(w); i++) {
-                        reach(rest + growth.downOf(w, i) * placeOf(t));
+                        step(code, t, w, growth.downOf(w, i));
                     }
                 }
             }
+            shift(code, 1);
         }
 
-        private void reach(int code) {
-            if (code >= 0 && code < CODES && tail < CODES && !isMet(code)) {
-                met[code / BITS] |= 1 << code % BITS;
-                queue[tail] = code;
-                tail++;
+        private void step(int code, int t, int w, int v) {
+            int other = code + (v - w) * placeOf(t);
+            if (farOf(t, v) < farOf(t, w)) {
+                putNow(other);
+            } else {
+                putLater(other);
             }
         }
 
-        private boolean isMet(int code) {
-            return code >= 0 && code < CODES && (met[code / BITS] >>> code % BITS & 1) == 1;
+        private void putNow(int code) {
+            if (code >= 0 && code < CODES && nowCount < CODES && !isIn(wasNow, code)) {
+                wasNow[code / BITS] |= 1 << code % BITS;
+                now[nowCount] = code;
+                nowCount++;
+            }
+        }
+
+        private void putLater(int code) {
+            if (code >= 0 && code < CODES && laterCount < CODES && !isIn(wasNow, code) && !isIn(wasLater, code)) {
+                wasLater[code / BITS] |= 1 << code % BITS;
+                later[laterCount] = code;
+                laterCount++;
+            }
+        }
+
+        private void takeLater() {
+            int[] codes = later;
+            int count = laterCount;
+            later = now;
+            now = codes;
+            laterCount = 0;
+            nowCount = 0;
+            // What is left moves forward in the same row, never behind the one that is looked at.
+            for (int i = 0; i < count && i < CODES; i++) {
+                putNow(codes[i]);
+            }
+        }
+
+        private static boolean isIn(int[] row, int code) {
+            return code >= 0 && code / BITS < row.length && (row[code / BITS] >>> code % BITS & 1) == 1;
         }
     }
 
@@ -1952,11 +2038,8 @@ public final class WordTables {
         }
 
         private boolean isRow(int row) {
-            int first = house.seenOf(0);
-            int began = house.lengthOf(first);
-            for (int letter = 0; letter < ALPHABET; letter++) {
-                left[letter] = growth.heldOf(first, letter);
-            }
+            int began = house.lengthOf(house.seenOf(0));
+            layOut(house.glyphsOf(house.seenOf(0)));
             int ahead = 0;
             for (int g = 0; g < house.guests; g++) {
                 if ((row >> g & 1) == 1) {
@@ -1969,6 +2052,13 @@ public final class WordTables {
                 }
             }
             return true;
+        }
+
+        private void layOut(int[] letters) {
+            Arrays.fill(left, 0);
+            for (int i = 0; i < letters.length && letters[i] >= 0 && letters[i] < ALPHABET; i++) {
+                left[letters[i]]++;
+            }
         }
 
         private boolean takes(int letter) {
