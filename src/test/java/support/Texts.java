@@ -115,7 +115,17 @@ final class Texts {
         return other.startsWith(word) || other.endsWith(word) || other.charAt(0) == word.charAt(0);
     }
 
-    /** The same with one or two tokens or signs changed, left out, or put twice. */
+    /** Lines put between lines, most of which are too many or told again. */
+    private String stuffed(String text) {
+        String[] lines = {"seen a", "seen e,e,e,e,e,e,e", "inn tables 1 chairs 1 grows any", "guest xa,xb,xc,xd,xe,xf,xg,xh", "guest ea,ta",
+            "likely q 1;likely r 1;likely s 1;likely u 1;likely v 1;likely w 1", "likely e 2", "word e worth 1", "word t worth 1;seen t,t,t,t,t,t,t",
+            "word qq worth 1;word qr worth 1;word qs worth 1;word qt worth 1;word qu worth 1;word qv worth 1;word qw worth 1"};
+        int at = text.indexOf(';', upTo(text.length()));
+        at = at < 0 ? text.length() : at;
+        return text.substring(0, at) + ";" + lines[upTo(lines.length)] + text.substring(at);
+    }
+
+    /** The same with one or two tokens, signs or lines changed, left out, put in, or put twice. */
     String spoiled(String text) {
         String made = text;
         int times = 1 + upTo(2);
@@ -126,11 +136,12 @@ final class Texts {
                 "abcdefg", "abcdefgh", "abcdefghi", "a", "A", "-", "\u00e9", "any", "worth", ";seen a", ";inn tables 1", ";guest x,y,z",
                 ";likely e 3;likely t 1", ";word ee worth 3", ";guest a,b,c,d,e,f,g,h", ""};
             String bit = bits[upTo(bits.length)];
-            switch (upTo(5)) {
+            switch (upTo(7)) {
                 case 0 -> made = made.substring(0, at) + made.substring(to);
                 case 1 -> made = made.substring(0, at) + bit + made.substring(at);
                 case 2 -> made = made.substring(0, at) + bit + made.substring(to);
                 case 3 -> made = made.substring(0, at);
+                case 4, 5 -> made = stuffed(made);
                 default -> made = made.substring(0, to) + made.substring(at);
             }
         }
