@@ -1240,8 +1240,16 @@ public final class WordTables {
                     nims |= 1 << nimOf(up[w][i]);
                 }
                 links[w] = longest;
-                nim[w] = Integer.numberOfTrailingZeros(~nims);
+                nim[w] = leastWithout(nims);
             }
+        }
+
+        private static int leastWithout(int bits) {
+            int least = 0;
+            while (least < 31 && (bits >> least & 1) == 1) {
+                least++;
+            }
+            return least;
         }
 
         private void lookDown(int n) {
