@@ -42,6 +42,24 @@ final class Check {
         due(call + ", trouble", x.trouble(), 0);
     }
 
+    void due(String call, String got, String want) {
+        if (!got.equals(want)) {
+            wrong++;
+            System.out.println(part + ": " + call + " left " + got + ", due is " + want);
+        }
+    }
+
+    /** A call that is refused by a number leaves the inn, the night and the marks as they were. */
+    void changesNothing(String call, Look.Deed before, int number, Look.Deed refused) {
+        WordTables touched = new WordTables();
+        WordTables untouched = new WordTables();
+        before.on(touched);
+        before.on(untouched);
+        refused.on(touched);
+        due(call + ", trouble", touched.trouble(), number);
+        due(call, Look.atInn(touched), Look.atInn(untouched));
+    }
+
     void ledNone(WordTables x, int i) {
         boolean thrown = false;
         try {
