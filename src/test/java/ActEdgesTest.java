@@ -175,6 +175,8 @@ public final class ActEdgesTest {
         ways(seen("1 6 back", "aab", "a,b,bo", "aab"), 0, 0, 0, 0);
         ways(seen("1 6 back", "aab", "a,b,ann", "aab"), 1, 1, 1, 1);
         ways(seen("1 6 back", "aab", "a,b,ann,bo", "aab"), 2, 2, 1, 2, 1);
+        ways(seen("1 6 back", "ab", "b,bo,a,aa", "ab"), 4, 2, 2, 2, 2);
+        ways(seen("1 6 back", "ab", "a,aa,b,bo", "ab"), 4, 2, 2, 2, 2);
     }
 
     private static void waysFurtherOnesByTheLetter() {

@@ -163,6 +163,8 @@ public final class NightEdgesTest {
         byHost(Told.text("1 6 any", "a ab ba bac", "a,c,b"), 3, "1", 2);
         // The second table, as another one needs the first.
         byHost(Told.text("2 6 back", "a ab b ac", "a,b,c"), 3, "3 2", 0);
+        byHost(Told.text("2 6 back", "a ab b bc", "a,b,c"), 3, "0 3", 0);
+        byHost(Told.text("3 6 back", "a ab b bc", "a,aa,b,c"), 3, "0 0 3", 0);
         // Of like ones the first table, the first word.
         byHost(Told.text("2 6 back", "b a ab", "a,b"), 3, "2 -2", 0);
         byHost(Told.text("1 6 any", "a ba ab bac abd", "a,b,e"), 3, "1", 4);

@@ -19,6 +19,9 @@ public final class StepEdgesTest {
         tablesChange();
         everyTable();
         theFewest();
+        roundAbout();
+        aLongWayRound();
+        wordNoughtAtAllTables();
         minusOneForWhatIsNotThere();
         noSuchWordOrTable();
         upFromNoughtToEight();
@@ -251,6 +254,79 @@ public final class StepEdgesTest {
         x.stand();
         steps(x, 0, 3, -1, 2, 3);
         steps(x, 0, 3, -1, 1, -2);
+    }
+
+    private static void roundAbout() {
+        CHECK.part("III: the fewest, though some lead away from what is told");
+        // c must make room for d, but no more than one may stand: d sits with a, c sits with both, d gets up, and so on.
+        String words = "a c d ad adc ac";
+        WordTables x = Told.inn("2 6 any", words, "a,c,d");
+        x.seat(0, 0);
+        x.seat(1, 1);
+        x.stand();
+        steps(x, 0, 2, -1, 2, 2);
+        steps(x, 0, 2, -1, 1, 6);
+        steps(x, 0, 2, -1, 0, -2);
+        // The same at other tables.
+        x = Told.inn("3 6 any", words, "a,c,d");
+        x.seat(2, 0);
+        x.seat(0, 1);
+        x.stand();
+        steps(x, 2, -1, 0, 2, 2);
+        // d sits at the empty table, c goes to a, d goes where c was, c gets up again.
+        steps(x, 2, -1, 0, 1, 6);
+        // Without adc there is no way round.
+        x = Told.inn("2 6 any", "a c d ad ac", "a,c,d");
+        x.seat(0, 0);
+        x.seat(1, 1);
+        x.stand();
+        steps(x, 0, 2, -1, 2, 2);
+        steps(x, 0, 2, -1, 1, -2);
+    }
+
+    private static void aLongWayRound() {
+        CHECK.part("III: the fewest, far away from what is told");
+        // a and b change tables: by way of ab while c stands, by way of ac and bc if c must sit.
+        WordTables x = Told.inn("2 6 any", "a b c ac acb ab bc", "a,b,c");
+        x.seat(0, 0);
+        x.seat(1, 1);
+        x.stand();
+        steps(x, 1, 0, -1, 3, 4);
+        steps(x, 1, 0, -1, 2, 4);
+        steps(x, 1, 0, -1, 1, 6);
+        steps(x, 1, 0, -1, 0, -2);
+        // Without bc c goes to and fro: to a, to where b was, and up again.
+        x.bar(6, true);
+        x.seat(0, 0);
+        x.seat(1, 1);
+        x.stand();
+        steps(x, 1, 0, -1, 2, 4);
+        steps(x, 1, 0, -1, 1, 8);
+    }
+
+    private static void wordNoughtAtAllTables() {
+        CHECK.part("30: the first WORD at all tables, the last one at all");
+        WordTables x = allStand("3 6 back", "a b", "a,aa,ab,b,bb,bc");
+        steps(x, 0, 0, 0, 8, 3);
+        steps(x, 1, 1, 1, 8, 3);
+        x.night(0);
+        x.come(3);
+        steps(x, 0, 0, 0, 0, 0);
+        steps(x, -1, 0, 0, 1, 1);
+        x.stand();
+        x.stand();
+        x.stand();
+        steps(x, 1, 1, 1, 6, 6);
+        steps(x, 1, 1, 1, 4, 6);
+        steps(x, 1, 1, 1, 3, -2);
+        StringBuilder words = new StringBuilder("a");
+        for (int w = 1; w < 24; w++) {
+            words.append(' ').append((char) ('a' + w));
+        }
+        x = allStand("3 6 back", words.toString(), "x,xa,xb,a,b");
+        steps(x, 23, 23, 23, 8, 3);
+        steps(x, 0, 23, 1, 8, 3);
+        steps(x, 23, 23, 22, 8, -2);
     }
 
     private static void minusOneForWhatIsNotThere() {

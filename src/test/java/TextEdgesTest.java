@@ -13,6 +13,7 @@ public final class TextEdgesTest {
         theHighestByteIsTheFirst();
         noneComesIfThereWouldBeMore();
         theFirstBytesAreTheInn();
+        aTokenEndsWithTheFirstBytes();
         refusedByTwoTheTapeStays();
         refusedByFourTheInnStays();
         aNightOfHostNoughtNoMarks();
@@ -40,6 +41,7 @@ public final class TextEdgesTest {
         seenToldAhead();
         sixSeen();
         formOfEveryLine();
+        everyLetterOfAKey();
         untold();
         toldAgain();
         outOfBounds();
@@ -216,6 +218,37 @@ public final class TextEdgesTest {
         CHECK.granted(x, "both", x.inn(fed + REST.length()), 1);
     }
 
+    private static void aTokenEndsWithTheFirstBytes() {
+        CHECK.part("3: the first n bytes: what lies behind them is no part of the last TOKEN");
+        String worth = INN + ";guest al;word a worth 9";
+        WordTables x = new WordTables();
+        Check.feed(x, worth + "9");
+        CHECK.granted(x, "worth 9, a digit behind it", x.inn(worth.length()), 1);
+        CHECK.due("worth", x.word(0, 1), 9);
+        Check.feed(x, worth + "999");
+        CHECK.granted(x, "worth 9, three digits behind it", x.inn(worth.length()), 1);
+        CHECK.due("worth", x.word(0, 1), 9);
+        String seen = SOUND + ";word ab worth 1;seen a";
+        x = new WordTables();
+        Check.feed(x, seen + "b");
+        CHECK.granted(x, "seen a, a letter behind it", x.inn(seen.length()), 1);
+        CHECK.due("ways", x.ways(), 1);
+        Check.feed(x, seen + "bcdefghij");
+        CHECK.granted(x, "seen a, nine letters behind it", x.inn(seen.length()), 1);
+        String barred = INN + ";guest al;word a worth 1 barred";
+        x = new WordTables();
+        Check.feed(x, barred + "x");
+        CHECK.granted(x, "barred, a letter behind it", x.inn(barred.length()), 1);
+        CHECK.due("barred", x.word(0, 2), 1);
+        // Of a text told before, too: the tape was empty, but its bytes lay there.
+        x = new WordTables();
+        Check.tell(x, worth.substring(0, worth.length() - 1) + "99");
+        CHECK.due("worth", x.word(0, 1), 99);
+        Check.feed(x, worth);
+        CHECK.granted(x, "the same again, one byte less", x.inn(worth.length()), 1);
+        CHECK.due("worth", x.word(0, 1), 9);
+    }
+
     private static void refusedByTwoTheTapeStays() {
         CHECK.part("3: 2 (THE TAPE stays)");
         WordTables x = new WordTables();
@@ -383,6 +416,18 @@ public final class TextEdgesTest {
             } else {
                 fault(number, 1, sign == ';' ? 11 : 10);
             }
+            inPlaceOfAWhole((char) sign);
+        }
+    }
+
+    private static void inPlaceOfAWhole(char sign) {
+        boolean digit = sign >= '0' && sign <= '9';
+        String worth = "guest al;" + INN + ";word a worth ";
+        if (digit) {
+            sound(worth + sign, 1);
+        } else {
+            fault(worth + sign, 1, worth.length() + (sign == ' ' ? 1 : 0));
+            fault("inn tables " + sign + " chairs 1", 1, 11 + (sign == ' ' ? 2 : 0));
         }
     }
 
@@ -621,6 +666,24 @@ public final class TextEdgesTest {
         }
     }
 
+    private static void everyLetterOfAKey() {
+        CHECK.part("I: 1 FORM: each letter of a certain WORD");
+        String[][] keys = {{"", "inn"}, {"", "word"}, {"", "guest"}, {"", "likely"}, {"", "seen"}, {"inn ", "tables"},
+            {"inn tables 1 ", "chairs"}, {"inn tables 1 chairs 1 ", "grows"}, {"inn tables 1 chairs 1 grows ", "any"},
+            {"inn tables 1 chairs 1 grows ", "ends"}, {"inn tables 1 chairs 1 grows ", "back"}, {"word a ", "worth"},
+            {"word a worth 1 ", "barred"}};
+        for (String[] key : keys) {
+            for (int i = 0; i < key[1].length(); i++) {
+                char[] other = key[1].toCharArray();
+                other[i] = other[i] == 'q' ? 'x' : 'q';
+                faultBehind(key[0], new String(other), 1);
+            }
+            faultBehind(key[0], key[1].substring(1), 1);
+            faultBehind(key[0], key[1].substring(0, key[1].length() - 1), 1);
+            faultBehind(key[0], key[1] + "s", 1);
+        }
+    }
+
     private static void untold() {
         CHECK.part("I: 2 a WORD seen that isn't told as a word; at it");
         faultBehind("seen ", "a", 2);
@@ -651,6 +714,13 @@ public final class TextEdgesTest {
         faultBehind(SOUND + ";seen a;", "seen a", 3);
         faultBehind(SOUND + ";seen a,a;guest bo;", "seen", 3);
         faultBehind(SOUND + ";seen a;", "seen b", 3);
+        // Each text for itself: none of it is told again in the next one.
+        WordTables x = new WordTables();
+        String all = SOUND + ";likely a 1;seen a";
+        CHECK.granted(x, "all", Check.tell(x, all), 1);
+        CHECK.granted(x, "all, in the next text", Check.tell(x, all), 1);
+        Check.tell(x, all + "!");
+        CHECK.granted(x, "all, behind one with a fault", Check.tell(x, all), 1);
     }
 
     private static void outOfBounds() {

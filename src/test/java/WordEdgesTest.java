@@ -53,6 +53,7 @@ public final class WordEdgesTest {
         bestOfAllEight();
         planRefused();
         richestOfAnyPlan();
+        lessByActs();
         fewestTables();
         fewestIfThereIsNone();
         wantedNone();
@@ -674,6 +675,28 @@ public final class WordEdgesTest {
         CHECK.due("of one too long", Told.inn("1 1 any", "ab:99 b:7", "a,b").richest(), 7);
         CHECK.due("of worth 0", Told.inn("1 1 any", "a:0", "a").richest(), 0);
         CHECK.due("shared letters", Told.inn("2 6 any", "ab:5 bc:6 c:2", "a,b,c").richest(), 7);
+    }
+
+    private static void lessByActs() {
+        CHECK.part("13 to 18: less, when WORDS are barred, and guests renamed");
+        WordTables x = Told.inn("2 6 any", "ab:9 a:3 c:50", "a,b,c");
+        best(x, 3, 59, 0, 2);
+        CHECK.granted(x, "richest", x.richest(), 59);
+        CHECK.granted(x, "fewest", x.fewest(), 2);
+        x.bar(2, true);
+        best(x, 2, 9, 0, -2);
+        CHECK.granted(x, "richest, barred", x.richest(), 9);
+        CHECK.granted(x, "fewest, barred", x.fewest(), -2);
+        x.rename(1, 25);
+        best(x, 1, 3, 1, -2);
+        CHECK.granted(x, "richest, renamed", x.richest(), 3);
+        CHECK.granted(x, "wanted, renamed", x.wanted(), -2);
+        x.rename(0, 25);
+        best(x, 0, 0, -2, -2);
+        CHECK.granted(x, "richest, renamed again", x.richest(), 0);
+        Check.tell(x, Told.text("1 6 any", "a:1", "a"));
+        CHECK.granted(x, "richest, another INN", x.richest(), 1);
+        CHECK.granted(x, "fewest, another INN", x.fewest(), 1);
     }
 
     private static int fewest(String house, String words, String guests) {
