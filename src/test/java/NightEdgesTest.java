@@ -191,6 +191,17 @@ public final class NightEdgesTest {
         for (int host = 0; host < 3; host++) {
             byHost(Told.text("1 6 back", words, "a,b,c"), host, "0", 6);
         }
+        // Whichever of three tables it is that waits for two others.
+        for (int t = 0; t < 3; t++) {
+            WordTables x = Told.inn("3 6 back", "x b y bg bh bhi", "x,b,y,g,h,i");
+            x.night(3);
+            x.seat((t + 1) % 3, 0);
+            x.seat(t, 1);
+            x.seat((t + 2) % 3, 2);
+            CHECK.granted(x, "come(3)", x.come(3), 3);
+            CHECK.granted(x, "table(" + t + ")", x.table(t), 5);
+            CHECK.granted(x, "standing", x.standing(), 8);
+        }
     }
 
     // ---- 21: night

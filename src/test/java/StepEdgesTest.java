@@ -282,6 +282,15 @@ public final class StepEdgesTest {
         x.stand();
         steps(x, 0, 2, -1, 2, 2);
         steps(x, 0, 2, -1, 1, -2);
+        // An a sits at the third table till b has the first one: for a moment all three are the first WORD.
+        x = Told.inn("3 6 any", "a b", "a,aa,ab,b");
+        x.seat(0, 0);
+        x.seat(1, 0);
+        x.stand();
+        x.stand();
+        steps(x, 1, 0, -1, 3, 2);
+        steps(x, 1, 0, -1, 2, 4);
+        steps(x, 1, 0, -1, 1, -2);
     }
 
     private static void aLongWayRound() {

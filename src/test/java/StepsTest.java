@@ -1,49 +1,77 @@
+import java.util.LinkedHashSet;
+import java.util.List;
 import java.util.Random;
+import java.util.Set;
 
 /** Promise 30 once more: steps to tables for which there are letters, few of them standing, against the model. */
 public final class StepsTest {
     private static final int INNS = 300;
+    private static final int CROWDED = 60;
     private static final int GOALS = 40;
+    private static final Check CHECK = new Check();
+    private static int farthest;
+    private static int ways;
 
     public static void main(String[] args) {
-        Check check = new Check();
-        int farthest = 0;
-        int ways = 0;
         for (int seed = 1; seed <= INNS; seed++) {
             Random chance = new Random(seed);
-            String text = new Texts(chance).sound(seed % 5 == 0 ? 24 : 12);
-            WordTables x = new WordTables();
-            Model model = new Model();
-            if (text.length() > 900 || Check.tell(x, text) < 0) {
-                continue;
-            }
-            Texts.fives(text).forEach(model::feed);
-            model.inn(text.length());
-            check.part(text);
-            x.night(3);
-            model.night(3);
-            for (int i = 0; i < GOALS; i++) {
-                if (x.size(6) < x.size(3) && i % 5 == 0) {
-                    x.come(1 + i / 5);
-                    model.come(1 + i / 5);
-                }
-                int[] goal = goalWithLetters(x, chance);
-                int up = chance.nextInt(4) == 0 ? 8 : chance.nextInt(5);
-                int due = model.steps(goal[0], goal[1], goal[2], up);
-                check.due("steps(" + goal[0] + ", " + goal[1] + ", " + goal[2] + ", " + up + ")",
-                    x.steps(goal[0], goal[1], goal[2], up), due);
-                farthest = Math.max(farthest, due);
-                ways += due > 0 ? 1 : 0;
-            }
+            run(new Texts(chance).sound(seed % 5 == 0 ? 24 : 12), chance, 5);
         }
-        check.part("enough is tried");
-        check.due("ways: " + ways, ways > 1000, true);
-        check.due("the farthest: " + farthest, farthest > 11, true);
-        check.end();
+        for (int seed = 1; seed <= CROWDED; seed++) {
+            Random chance = new Random(seed);
+            run(crowded(chance), chance, 3);
+        }
+        CHECK.part("enough is tried");
+        CHECK.due("ways: " + ways, ways > 1000, true);
+        CHECK.due("the farthest: " + farthest, farthest > 11, true);
+        CHECK.end();
+    }
+
+    private static void run(String text, Random chance, int ups) {
+        WordTables x = new WordTables();
+        Model model = new Model();
+        if (text.length() > 900 || Check.tell(x, text) < 0) {
+            return;
+        }
+        Texts.fives(text).forEach(model::feed);
+        model.inn(text.length());
+        CHECK.part(text);
+        x.night(3);
+        model.night(3);
+        for (int i = 0; i < GOALS; i++) {
+            if (x.size(6) < x.size(3) && i % 5 == 0) {
+                x.come(1 + i / 5);
+                model.come(1 + i / 5);
+            }
+            int[] goal = goalWithLetters(model, chance);
+            int up = chance.nextInt(4) == 0 ? 8 : chance.nextInt(ups);
+            int due = model.steps(goal[0], goal[1], goal[2], up);
+            CHECK.due("steps(" + goal[0] + ", " + goal[1] + ", " + goal[2] + ", " + up + ")",
+                x.steps(goal[0], goal[1], goal[2], up), due);
+            farthest = Math.max(farthest, due);
+            ways += due > 0 ? 1 : 0;
+        }
+    }
+
+    /** Many words of few letters at three tables: where no more than one or two may stand, ways go round about. */
+    private static String crowded(Random chance) {
+        Set<String> words = new LinkedHashSet<>(List.of("a", "b", "c"));
+        while (words.size() < 24) {
+            StringBuilder word = new StringBuilder();
+            for (int i = chance.nextInt(3); i >= 0; i--) {
+                word.append((char) ('a' + chance.nextInt(3)));
+            }
+            words.add(word.toString());
+        }
+        StringBuilder guests = new StringBuilder();
+        for (int g = 4 + chance.nextInt(5); g > 0; g--) {
+            guests.append((char) ('a' + chance.nextInt(3))).append((char) ('a' + g)).append(g == 1 ? "" : ",");
+        }
+        return Told.text("3 3 " + (chance.nextBoolean() ? "any" : "back"), String.join(" ", words), guests.toString());
     }
 
     /** Words put to tables by chance, as long as guests that have come have the letters. */
-    private static int[] goalWithLetters(WordTables x, Random chance) {
+    private static int[] goalWithLetters(Model x, Random chance) {
         int[] left = new int[26];
         for (int g = 0; g < x.size(6); g++) {
             left[x.guest(g)]++;
@@ -60,7 +88,7 @@ public final class StepsTest {
         return goal;
     }
 
-    private static boolean takes(WordTables x, int w, int[] left) {
+    private static boolean takes(Model x, int w, int[] left) {
         int[] then = left.clone();
         for (int i = 0; i < x.word(w, 0); i++) {
             then[x.letter(w, i)]--;

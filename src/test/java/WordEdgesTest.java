@@ -501,7 +501,11 @@ public final class WordEdgesTest {
         rung(x, 3, 3, 0, 5);
         rung(x, 0, 4, 0, 5);
         rung(x, 4, 4, 0, 5);
+        rung(x, 0, 3, -1, 1);
+        rung(x, 0, 3, HIGH, 5);
         x.bar(3, false);
+        rung(x, 0, 3, -1, 1);
+        rung(x, 0, 3, HIGH, 6);
         rung(x, 0, 3, 0, 6);
         rung(x, 3, 0, 0, 6);
         rung(x, 3, 0, 1, 6);
@@ -808,6 +812,8 @@ public final class WordEdgesTest {
         for (int i : new int[] {0, 1, HIGH}) {
             CHECK.refused(x, "wants(" + i + "), none can", x.wants(i), 6);
         }
+        CHECK.refused(x, "wants(-1), none can", x.wants(-1), 1);
+        CHECK.refused(x, "wants(LOW), none can", x.wants(LOW), 1);
         x.rename(0, 3);
         CHECK.refused(x, "wants(0), barred", x.wants(0), 6);
         x.bar(1, false);
