@@ -1,7 +1,4 @@
-import java.util.LinkedHashSet;
-import java.util.List;
 import java.util.Random;
-import java.util.Set;
 
 /** Promise 30 once more: steps to tables for which there are letters, few of them standing, against the model. */
 public final class StepsTest {
@@ -19,7 +16,7 @@ public final class StepsTest {
         }
         for (int seed = 1; seed <= CROWDED; seed++) {
             Random chance = new Random(seed);
-            run(crowded(chance), chance, 3);
+            run(new Texts(chance).crowded(), chance, 3);
         }
         CHECK.part("enough is tried");
         CHECK.due("ways: " + ways, ways > 1000, true);
@@ -51,23 +48,6 @@ public final class StepsTest {
             farthest = Math.max(farthest, due);
             ways += due > 0 ? 1 : 0;
         }
-    }
-
-    /** Many words of few letters at three tables: where no more than one or two may stand, ways go round about. */
-    private static String crowded(Random chance) {
-        Set<String> words = new LinkedHashSet<>(List.of("a", "b", "c"));
-        while (words.size() < 24) {
-            StringBuilder word = new StringBuilder();
-            for (int i = chance.nextInt(3); i >= 0; i--) {
-                word.append((char) ('a' + chance.nextInt(3)));
-            }
-            words.add(word.toString());
-        }
-        StringBuilder guests = new StringBuilder();
-        for (int g = 4 + chance.nextInt(5); g > 0; g--) {
-            guests.append((char) ('a' + chance.nextInt(3))).append((char) ('a' + g)).append(g == 1 ? "" : ",");
-        }
-        return Told.text("3 3 " + (chance.nextBoolean() ? "any" : "back"), String.join(" ", words), guests.toString());
     }
 
     /** Words put to tables by chance, as long as guests that have come have the letters. */

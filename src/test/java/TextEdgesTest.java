@@ -331,6 +331,17 @@ public final class TextEdgesTest {
         CHECK.refused(x, "wrong", x.wrong(), 6);
         CHECK.refused(x, "guest(1)", x.guest(1), 1);
         CHECK.due("all", Look.atInn(x), alone);
+        // Words that could grow, at the numbers of some that can't: what was known of them is nothing to the new ones.
+        Check.tell(x, Told.text("1 6 back", "abcdef abcde abcd abc ab a", "al"));
+        CHECK.due("grundy(-1)", x.grundy(-1), 0);
+        CHECK.due("chain(5)", x.chain(5), 5);
+        Check.tell(x, Told.text("1 6 back", "a ab abc abcd abcde abcdef", "al"));
+        CHECK.due("grundy(-1), the other way round", x.grundy(-1), 0);
+        for (int w = 0; w < 6; w++) {
+            CHECK.due("grundy(" + w + ")", x.grundy(w), (5 - w) % 2);
+            CHECK.due("chain(" + w + ")", x.chain(w), 5 - w);
+            CHECK.due("rises(" + w + ")", x.rises(w), 1);
+        }
     }
 
     private static void theFaultOfTheLatest() {

@@ -71,6 +71,24 @@ final class Texts {
         return String.join(";", lines);
     }
 
+    /** 24 words of few letters at three tables: all of them are taken soon, and where few may stand, ways go round about. */
+    String crowded() {
+        Set<String> words = new LinkedHashSet<>(List.of("a", "b", "c"));
+        while (words.size() < 24) {
+            StringBuilder word = new StringBuilder();
+            for (int i = upTo(3); i >= 0; i--) {
+                word.append(sign("abc"));
+            }
+            words.add(word.toString());
+        }
+        List<String> guests = new ArrayList<>();
+        for (int g = 4 + upTo(5); g > 0; g--) {
+            guests.add(sign("abc") + (char) ('a' + g));
+        }
+        return Told.text("3 3 " + (upTo(2) == 0 ? "back" : "any"), String.join(" ", words), String.join(",", guests), "likely a "
+            + (1 + upTo(9)), "likely b " + (1 + upTo(9)), "likely c " + (1 + upTo(9)));
+    }
+
     private void addGuests(List<String> lines, String alphabet) {
         int guests = 1 + upTo(8);
         StringBuilder line = new StringBuilder("guest ");
