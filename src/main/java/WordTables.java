@@ -365,7 +365,7 @@ public final class WordTables {
     }
 
     public int able() {
-        return house.isOpen() ? granted(future.mostFrom(0, EMPTY, EMPTY, EMPTY)) : refused(NONE_SUCH);
+        return house.isOpen() ? granted(future.fromBeginning()) : refused(NONE_SUCH);
     }
 
     public int sits(int host) {
@@ -389,7 +389,7 @@ public final class WordTables {
         if (house.likelies < 1) {
             return refused(THERE_IS_NONE);
         }
-        int above = future.hoped(k, tonight.at(0), tonight.at(1), tonight.at(2));
+        int above = future.hopeFrom(tonight, k);
         int below = future.weightOf(k);
         int shared = commonDivisor(above, below);
         return granted(shared < 1 ? NONE : (lower ? below : above) / shared);
@@ -1630,8 +1630,23 @@ public final class WordTables {
             }
         }
 
+        /** How many of all guests can sit at most, if all tables are empty. */
+        int fromBeginning() {
+            return mostFrom(0, EMPTY, EMPTY, EMPTY);
+        }
+
+        /** How many of the guests behind the night's next one can sit, if table t (none of them: NONE) becomes v. */
+        int behindNext(Night night, int t, int v) {
+            return mostFrom(night.came + 1, t == 0 ? v : night.at(0), t == 1 ? v : night.at(1), t == 2 ? v : night.at(2));
+        }
+
+        /** The hope of k letters from the night's tables, times the k-th power of the whole weight. */
+        int hopeFrom(Night night, int k) {
+            return hoped(k, night.at(0), night.at(1), night.at(2));
+        }
+
         /** How many of the guests from g on can sit at most, if the tables are a, b and c. */
-        int mostFrom(int g, int a, int b, int c) {
+        private int mostFrom(int g, int a, int b, int c) {
             int low = Math.min(a, Math.min(b, c));
             int high = Math.max(a, Math.max(b, c));
             int mid = a + b + c - low - high;
@@ -1668,8 +1683,7 @@ public final class WordTables {
             return most;
         }
 
-        /** The hope of k letters, times the k-th power of the whole weight. */
-        int hoped(int k, int a, int b, int c) {
+        private int hoped(int k, int a, int b, int c) {
             int low = Math.min(a, Math.min(b, c));
             int high = Math.max(a, Math.max(b, c));
             int mid = a + b + c - low - high;
@@ -1762,7 +1776,7 @@ public final class WordTables {
                     }
                 }
             }
-            if (table < 0 || night.hostNumber == WISE && inTheEnd(night, NONE, EMPTY) > top) {
+            if (table < 0 || night.hostNumber == WISE && future.behindNext(night, NONE, EMPTY) > top) {
                 night.leaveStanding();
             } else {
                 night.sitDown(table, word);
@@ -1773,14 +1787,9 @@ public final class WordTables {
             switch (night.hostNumber) {
                 case LONG: return growth.chainOf(v);
                 case DEAR: return house.valueOf(v) - house.valueOf(night.at(t));
-                case WISE: return 1 + inTheEnd(night, t, v);
+                case WISE: return 1 + future.behindNext(night, t, v);
                 default: return 0;
             }
-        }
-
-        /** How many of the guests behind the next one can sit, if table t (none of them: NONE) becomes v. */
-        private int inTheEnd(Night night, int t, int v) {
-            return future.mostFrom(night.came + 1, t == 0 ? v : night.at(0), t == 1 ? v : night.at(1), t == 2 ? v : night.at(2));
         }
     }
 

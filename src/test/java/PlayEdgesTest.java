@@ -161,6 +161,11 @@ public final class PlayEdgesTest {
         x.seat(0, 0);
         hope(x, 1, 1, 1);
         hope(x, 2, 1, 1);
+        for (int full = 0; full < 3; full++) {
+            x.night(0);
+            x.seat(full, 0);
+            hope(x, 3, 2, 1);
+        }
         // A b at the table of a, or at one of its own: a c may follow there.
         x = Told.inn("2 2 back", "a ab b bc", "a", "likely b 1;likely c 1");
         x.seat(1, 0);
